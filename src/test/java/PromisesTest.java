@@ -169,6 +169,7 @@ public final class PromisesTest {
         due("image", x.image(), 2);
         due("work", x.work(0), 1);
         due("hand", x.hand(7), 4);
+        due("work", x.work(1), 2);
         due("loom 12", x.loom(12), 12);
         for (int what : new int[] {1, 2, 3, 6, 7, 8}) due("count " + what, x.count(what), 0);
         for (int s = 0; s < 12; s++) due("filled", x.filled(s, 99), 1);
@@ -294,6 +295,8 @@ public final class PromisesTest {
         due("comes", x.turn(1, 98), 9);
         due("comes", x.turn(3, 96), 10);
         due("goes", x.turn(0, 99), 9);
+        due("the least goes", x.turn(1, 90), 8);
+        due("and comes", x.turn(1, 90), 9);
         due("filled", x.filled(0, 99), 1);
         pins(x, at(0, 0, 0));
         due("work", x.work(0), 1);
@@ -340,6 +343,20 @@ public final class PromisesTest {
         due("thread", x.thread(0, 0), 0);
         due("hang", x.hang(0, 0), 302);
         due("turns", x.turn(4, 4), 2);
+        due("fill", x.fill(0, false), 1);
+        due("fill", x.fill(4, false), 1);
+        due("turn", x.turn(4, 4), 3);
+        due("hangs by slot", x.hang(1, 0), 4);
+        due("hangs by slot", x.hang(2, 0), 404);
+        due("turn", x.turn(4, 4), 2);
+        due("turn", x.turn(3, 4), 3);
+        due("fill", x.fill(3, true), 0);
+        due("mirror", x.mirror(), 3);
+        due("hangs are put in order anew", x.hang(0, 0), 104);
+        due("hangs are put in order anew", x.hang(1, 0), 404);
+        due("mirror", x.mirror(), 3);
+        due("fill", x.fill(0, true), 0);
+        due("fill", x.fill(4, true), 0);
         due("work", x.work(1), 1);
         due("state", x.mirror(), STATE);
         due("slot", x.of(0, 1), 3);
@@ -394,6 +411,8 @@ public final class PromisesTest {
         due("chain", y.needs(0, 1), (1L << 30) - 2);
         due("chain", y.needs(29, 2), (1L << 29) - 1);
         due("chain", y.needs(4, 0), 1L << 5);
+        for (int p = 30; p > 5; p--) due("drop", y.drop(), p - 1);
+        due("told anew", y.needs(4, 0) + y.needs(4, 1), 0);
     }
 
     private static void p13Pins() {
@@ -411,6 +430,10 @@ public final class PromisesTest {
         due("work", x.work(2), 3);
         due("ready", x.pins(1), 0);
         due("lack", x.pins(0), 0b1000);
+        for (int n = 2; n >= 0; n--) due("undo", x.undo(), n);
+        due("fill", x.fill(0, false), 1);
+        due("lack", x.pins(0), 0b1001);
+        due("ready", x.pins(1), 0b0010);
         for (int bad : new int[] {-1, 3, LOW, HIGH}) due("what", x.pins(bad), LacePins.NO);
     }
 
@@ -423,6 +446,12 @@ public final class PromisesTest {
         due("three", x.deepest(), 2);
         due("drop", x.drop(), 3);
         due("two", x.deepest(), 1);
+        due("mirror", x.mirror(), 3);
+        pins(x, at(70, 0, 0));
+        due("two", x.deepest(), 1);
+        LacePins z = begin("14 deepest", 3);
+        pins(z, at(9, 0, 0), at(1, 0, 0));
+        due("the first", z.deepest(), 1);
         LacePins y = begin("14 deepest", 3);
         for (int p = 0; p < 30; p++) due("pin", y.pin(p, p % 2, 0), p);
         due("thirty", y.deepest(), 29);
@@ -477,6 +506,14 @@ public final class PromisesTest {
         due("the rest", x.workAll(), 4);
         due("none more", x.workAll(), 0);
         due("done", x.count(3), 5);
+        LacePins z = begin("16 workAll", 8);
+        pins(z, at(0, 0, 0), at(0, 6, 0), at(1, 2, 0), at(0, 4, 0), at(0, 2, 0));
+        due("all", z.workAll(), 5);
+        int[] slots = {2, 6, 4, 2, 0};
+        for (int i = 0; i < 5; i++) {
+            due("hand", z.count(6), slots[i]);
+            due("undo", z.undo(), 4 - i);
+        }
         LacePins y = begin("16 workAll", 12);
         for (int p = 0; p < 30; p++) due("pin", y.pin(p / 5, p % 5 * 2, p % 5), p);
         due("thirty", y.workAll(), 30);
@@ -752,6 +789,9 @@ public final class PromisesTest {
         due("loom", x.loom(2), 6);
         due("paper stays", x.count(5), 6);
         drafted(x, 0, "||");
+        due("fill", x.fill(0, false), 1);
+        pins(x, at(7, 0, 0));
+        drafted(x, 7, ".)");
     }
 
     private static void p30Paper() {
@@ -786,6 +826,15 @@ public final class PromisesTest {
         due("none was laid", x.get(3, 0), 9);
         due("list", x.list(0, 0), 1);
         due("no place", x.lay(0, 0), BEYOND);
+        due("loom", x.loom(12), 2);
+        due("list", x.list(2, 30), 1);
+        due("list", x.list(3, 24), 1);
+        due("beyond", x.lay(2, 7), BEYOND);
+        due("not into the next", x.get(3, 0), 0);
+        due("all", x.lay(3, 0), 24);
+        due("list", x.list(3, 30), 1);
+        due("beyond the last", x.lay(3, 20), BEYOND);
+        due("from the last place on", x.lay(3, 6), 24);
     }
 
     private static void p32Seen() {
@@ -801,6 +850,10 @@ public final class PromisesTest {
             due("from elsewhere", x.seen(0, 2, 0), 0);
             due("set", x.set(2, 8, x.get(2, 8) + (1L << 32)), 1);
             due("by longs", x.seen(0, 2, 3), 0);
+            due("set", x.set(2, 8, 5), 1);
+            due("seen again", x.seen(0, 2, 3), 1 << s);
+            due("set", x.set(2, 3, x.get(2, 3) + 1), 1);
+            due("the first one, too", x.seen(0, 2, 3), 0);
         }
         LacePins x = begin("32 seen", 2);
         due("no pin", x.seen(0, 0, 0), NONE);
@@ -873,6 +926,7 @@ public final class PromisesTest {
             "pin 0 0 hal", "pin 0 0 halfe", "pin 0 0 Half", "pin 0 0 half ", "pin 0 0 half0",
             "pin 0 0 half;", "pin 0 0 half;;", "pin 0 0 half; pin 0 3 half", "turn 0 0 ", "turn 0",
             "turn 0 100", "turn 00 1;turn 1", "fill 0;fil 1", "fill 123", "empty 1 1", "empty",
+            "xin 0 0 half", "fillz 0", "zfill 0", "fill{0", "`", "fill 0;pin 0 0 whola", "fill :", "fill /",
             "fill 1:fill 2", "fill -1", "fill 1a", "pin 0 0 half;turnx 1", "fill", "fill 9;x"};
         int[] faults = {
             0, 0, 0, 0, 0, 0, 3, 3,
@@ -881,6 +935,7 @@ public final class PromisesTest {
             8, 8, 8, 12, 12,
             13, 13, 13, 8, 6,
             9, 16, 7, 7, 7, 5,
+            0, 0, 0, 4, 0, 15, 5, 5,
             6, 5, 6, 13, 4, 7};
         for (int i = 0; i < texts.length; i++) {
             due("'" + texts[i] + "'", told(x, texts[i]), -100 - faults[i]);
@@ -933,7 +988,12 @@ public final class PromisesTest {
         due("shorter", x.list(0, 3), 1);
         due("get", x.get(0, 29), LacePins.NO);
         due("longer", x.list(0, 30), 1);
+        for (int i = 0; i < 30; i++) due("set", x.set(0, i, i + 1), 1);
+        due("list", x.list(1, 30), 1);
+        due("set", x.set(1, 0, 8), 1);
+        due("anew", x.list(0, 30), 1);
         for (int i = 0; i < 30; i++) due("all 0", x.get(0, i), 0);
+        due("the next one stays", x.get(1, 0), 8);
         due("of no longs", x.list(3, 0), 1);
         due("beyond", x.set(3, 0, 1), BEYOND);
     }
@@ -983,6 +1043,7 @@ public final class PromisesTest {
         due("two", x.image(), 2);
         due("work", x.work(0), 1);
         due("the later one is kept", x.restore(), 2);
+        due("row", x.of(1, 0), 1);
         due("done", x.count(3), 0);
         due("stitch", x.stitch(0, 3), 0);
         due("it is not changed by what comes", x.restore(), 2);
@@ -1011,11 +1072,18 @@ public final class PromisesTest {
         due("work", x.work(2), 3);
         due("loom", x.loom(12), 4);
         due("draft", x.draft(0), 12);
-        pins(x, at(50, 9, 0));
-        due("workAll", x.workAll(), 1);
+        pins(x, at(50, 9, 0), at(51, 9, 0), at(52, 9, 0));
+        turns(x, 11, 60, 11, 61);
+        due("workAll", x.workAll(), 3);
         due("restore", x.restore(), 3);
         due("slots", x.count(0), 4);
         due("turns", x.count(2), 2);
+        for (int p = 0; p < 3; p++) due("row", x.of(p, 0), p / 2);
+        for (int p = 0; p < 3; p++) due("stitch", x.of(p, 2), 4 - p);
+        due("slot", x.of(2, 1), 1);
+        due("filled", x.filled(0, 8), 1);
+        due("filled", x.filled(0, 9), 0);
+        due("filled", x.filled(3, 8), 0);
         due("done", x.pins(2), 0b011);
         due("hand", x.count(6), 0);
         for (int t = 0; t < 8; t++) {
