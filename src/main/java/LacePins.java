@@ -710,7 +710,7 @@ public final class LacePins {
         }
 
         void workPin(int pin, int slot, int stitch) {
-            // each PIN is worked once at most, so that this never holds
+            // never so, for each PIN is worked once at most
             if (workedCount >= MOST_PINS) return;
             int left = 2 * slot;
             for (int act = 0; act < actCount(stitch); act++) {
@@ -1075,9 +1075,9 @@ public final class LacePins {
             place = 0;
             fault = -1;
             parts = 0;
-            while (parts < MOST_PARTS) {
-                readPart(parts);
-                parts++;
+            for (int part = 0; part < MOST_PARTS; part++) {
+                readPart(part);
+                parts = part + 1;
                 if (fault >= 0 || place >= length) return;
                 expect(';');
                 if (fault >= 0) return;

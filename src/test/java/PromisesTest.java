@@ -746,6 +746,22 @@ public final class PromisesTest {
         due("as many as can be", y.pairs(1), 2);
         due("far", y.pairs(2), 10 + 11);
         due("pairs", y.pairs(0), 11);
+        LacePins z = begin("27 pairs", 12);
+        for (int t = 0; t < 10; t++) turns(z, t, 50 - t);
+        due("ten OUTS", z.count(8), 10);
+        due("none JOINED", z.pairs(1) + z.pairs(2), 0);
+        due("pairs", z.pairs(0), 12);
+        due("turn", z.turn(0, 50), 9);
+        due("fill", z.fill(11, false), 1);
+        turns(z, 11, 49);
+        due("nine OUTS", z.count(8), 9);
+        due("JOINED", z.pairs(1), 1);
+        due("the nearest", z.hang(0, 1), 941);
+        due("fill", z.fill(11, true), 0);
+        for (int t = 1; t < 10; t++) due("fill", z.fill(t, false), 1);
+        due("nine HANGS", z.count(7), 9);
+        due("none JOINED", z.pairs(1), 0);
+        due("pairs", z.pairs(0), 3 + 9);
     }
 
     private static void p28Hang() {
