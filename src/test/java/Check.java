@@ -19,6 +19,10 @@ final class Check {
         due(what, is ? 1 : 0, 1);
     }
 
+    long asked() {
+        return asked;
+    }
+
     boolean isClean() {
         return wrong == 0;
     }

@@ -934,7 +934,6 @@ public final class PromisesTest {
     }
 
     private static void p35Faults() {
-        LacePins x = begin("35 faults", 6);
         String[] texts = {
             "", " pin 0 0 half", "pi", "pinn 0 0 half", "Pin 0 0 half", "cross 0", "pin", "pin0",
             "pin ", "pin  0", "pin x", "pin 0", "pin 0;", "pin 000 0 half", "pin 0 ", "pin 0 0",
@@ -954,12 +953,14 @@ public final class PromisesTest {
             0, 0, 0, 4, 0, 15, 5, 5,
             6, 5, 6, 13, 4, 7};
         for (int i = 0; i < texts.length; i++) {
+            LacePins x = begin("35 faults", 6);
             due("'" + texts[i] + "'", told(x, texts[i]), -100 - faults[i]);
+            due("nothing is told", x.count(1) + x.count(2), 0);
         }
-        due("nothing is told", x.count(1) + x.count(2), 0);
         StringBuilder full = new StringBuilder("fill 0");
         while (full.length() + 7 < 120) full.append(";fill 0");
         full.append(";");
+        LacePins x = begin("35 faults", 6);
         due("at the very end", told(x, full.toString()), -100 - full.length());
     }
 
