@@ -712,6 +712,15 @@ public final class PrickingBoundariesTest extends Boundaries {
         }
     }
 
+    @Says("TURNS of SLOTS, 10 at most in all")
+    static void p10TenTurns() {
+        LacePins x = made(PrickingBoundariesTest::tenTurns);
+        due("mirror", x.mirror(), 0);
+        due("TURNS", x.count(2), 10);
+        due("none more", x.turn(0, 50), FULL);
+        for (int i = 0; i < 10; i++) due("each goes from the other side", x.turn(5 - i % 3, i), 9 - i);
+    }
+
     @Says("W - 1 - s; no more")
     static void p10NoMore() {
         LacePins x = made(IDLE);

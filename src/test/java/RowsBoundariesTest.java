@@ -286,6 +286,21 @@ public final class RowsBoundariesTest extends Boundaries {
         due("undo", x.undo(), 0);
         due("the HAND ahead of it", x.count(6), 4);
         threads(x, 0, 1, 2, 3, 4, 5, 6, 7, 8, 9);
+        LacePins z = made(then(BUSY, a -> a.image()));
+        for (int n = 1; n >= 0; n--) due("undo", z.undo(), n);
+        z.hand(0);
+        z.work(0);
+        z.hand(0);
+        z.work(1);
+        z.hand(0);
+        due("others were WORKED since", z.restore(), 4);
+        int[] hands = {3, 4};
+        int[] worked = {0, 1};
+        for (int i = 0; i < 2; i++) {
+            due("undo", z.undo(), 1 - i);
+            due("that one", z.of(worked[i], 3), 0);
+            due("the HAND ahead of it", z.count(6), hands[i]);
+        }
         LacePins y = made(IDLE);
         y.workAll();
         due("an IMAGE of none DONE", y.restore(), 4);
@@ -311,6 +326,22 @@ public final class RowsBoundariesTest extends Boundaries {
         due("ahead of the TURN", x.filled(11, 98), 1);
         due("at the TURN", x.filled(11, 99), 0);
         for (int t = 0; t < 24; t++) due("where", x.where(t), t);
+    }
+
+    @Says("All is as THE IMAGE: how many PINS")
+    static void p41AllThreads() {
+        LacePins x = made(loom(12));
+        for (int p = 0; p < 6; p++) x.pin(0, 2 * p, WHOLE);
+        x.workAll();
+        x.image();
+        x.loom(2);
+        x.loom(12);
+        due("restore", x.restore(), 6);
+        int[] overs = {1, 2, 1, 2};
+        for (int t = 0; t < 24; t++) {
+            due("where " + t, x.where(t), t - t % 4 + 3 - t % 4);
+            due("overs " + t, x.overs(t), overs[t % 4]);
+        }
     }
 
     @Says("All is as THE IMAGE: how many PINS")

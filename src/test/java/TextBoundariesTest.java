@@ -253,6 +253,15 @@ public final class TextBoundariesTest extends Boundaries {
         for (int i : outside(0, 1)) leavesAll(seenBy(0), "from " + i, x -> x.seen(0, 0, i), BEYOND);
         leavesAll(then(chain(1), x -> x.list(0, 0)), "a LIST of no longs", x -> x.seen(0, 0, 0), BEYOND);
         leavesAll(then(chain(1), x -> x.list(0, 3)), "one place too few", x -> x.seen(0, 0, 0), BEYOND);
+        for (int w = 2; w <= 12; w++) {
+            LacePins x = made(loom(w));
+            x.pin(0, 0, 0);
+            x.list(1, 2 * w);
+            due("as many places as threads of " + w, x.seen(0, 1, 0), 0);
+            due("from the second place on", x.seen(0, 1, 1), BEYOND);
+            x.list(1, 2 * w - 1);
+            due("one place too few for " + w, x.seen(0, 1, 0), BEYOND);
+        }
         due("from the last place on", made(seenBy(0)).seen(0, 0, 1), 1);
         due("from the first place on", made(seenBy(0)).seen(0, 0, 0), 0);
     }
@@ -451,6 +460,17 @@ public final class TextBoundariesTest extends Boundaries {
         due("120 bytes", feedAll(y, pins), 120);
         due("eight PINS", y.pricking(), 8);
         due("the last ROW", y.of(7, 0), 88);
+        LacePins z = new LacePins();
+        due("120 bytes, a number of one figure last", feedAll(z, times(16, "fill 0;") + "turn 4 1"), 120);
+        due("seventeen", z.pricking(), 17);
+        due("ROW 1", z.filled(4, 1), 0);
+        due("ROW 0", z.filled(4, 0), 1);
+        LacePins n = new LacePins();
+        due("120 bytes, a blank last", feedAll(n, times(16, "fill 0;") + "turn  0 "), 120);
+        due("the FAULT", n.pricking(), -217);
+        LacePins e = new LacePins();
+        due("120 bytes, a ; last", feedAll(e, times(16, "fill 0;") + "fill 01;"), 120);
+        due("the length", e.pricking(), -220);
     }
 
     // ---- 35 pricking: the FAULT
@@ -469,6 +489,11 @@ public final class TextBoundariesTest extends Boundaries {
         fault("pinn 0 0 half", 0);
         fault("pi 0 0 half", 0);
         fault("xpin 0 0 half", 0);
+        fault("xin 0 0 half", 0);
+        fault("pix 0 0 half", 0);
+        fault("burn 0 0", 0);
+        fault("empti 0", 0);
+        fault("bill 0", 0);
         fault("turns 0 0", 0);
         fault("emptyy 0", 0);
         fault("half 0", 0);
@@ -480,6 +505,8 @@ public final class TextBoundariesTest extends Boundaries {
     static void p35NoSuchStitch() {
         fault("pin 0 0 hal", 8);
         fault("pin 0 0 halff", 8);
+        fault("pin 0 0 calf", 8);
+        fault("pin 0 0 cloty", 8);
         fault("pin 10 0 pin", 9);
         fault("pin 10 10 lace", 10);
         fault("pin 0 0 h;fill 0", 8);
@@ -517,6 +544,10 @@ public final class TextBoundariesTest extends Boundaries {
     @Says("the place (from 0) of the first byte with which no such text goes on")
     static void p35NoSuchTextGoesOn() {
         fault("fill0", 4);
+        fault("pin0 0 half", 3);
+        fault("pin0", 3);
+        fault("turn0 0", 4);
+        fault("turn0", 4);
         fault("fill,0", 4);
         fault("fill x", 5);
         fault("fill /", 5);
@@ -653,5 +684,23 @@ public final class TextBoundariesTest extends Boundaries {
         LacePins x = made(BUSY);
         due("while one is DONE", x.pricking(), -300);
         due("bytes", x.count(4), 0);
+    }
+
+    @Says("THE TAPE is empty behind each call that reads it")
+    static void p35NothingIsLeftOfTheTextAhead() {
+        String ahead = "pin 11 44 half;fill 0;turn 22 33";
+        String[] texts = {"pin", "pin ", "pin 1", "pin 11 ", "pin 11 4", "pin 11 44 ", "pin 11 44 half;fill"};
+        for (String text : texts) {
+            LacePins x = new LacePins();
+            due("a longer one ahead", told(x, ahead), -300);
+            due("'" + text + "'", told(x, text), -100 - text.length());
+        }
+        LacePins x = new LacePins();
+        due("a longer one ahead", told(x, "fill 55"), -300);
+        due("a figure fewer", told(x, "fill 5"), 1);
+        due("a longer one ahead", told(x, "fill 5;fill 5;fill 5"), 3);
+        due("PARTS fewer", told(x, "fill 5"), 1);
+        due("a longer one ahead", told(x, "pin 0 0 halfx"), -108);
+        due("a letter fewer", told(x, "pin 0 0 half"), 1);
     }
 }

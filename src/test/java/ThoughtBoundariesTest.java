@@ -71,7 +71,13 @@ public final class ThoughtBoundariesTest extends Boundaries {
         due("twelve of thirty", x.orders(), 1);
         x.undo();
         due("thirteen again", x.orders(), -3);
-        leavesAll(chain(13), "orders", y -> y.orders(), -3);
+        LacePins y = made(z -> {
+            for (int p = 0; p < 13; p++) z.pin(99 - p, 0, CROSS);
+        });
+        due("thirteen", y.orders(), -3);
+        due("work", y.work(12), 1);
+        due("the last by number is DONE", y.orders(), 1);
+        leavesAll(chain(13), "orders", z -> z.orders(), -3);
     }
 
     @Says("-3: more than twelve PINS aren't DONE")
@@ -340,6 +346,56 @@ public final class ThoughtBoundariesTest extends Boundaries {
         joined(turns(12, empty(5), 0, 10, 11, 11, 4, 12, 5, 20), 11, 1, 1);
     }
 
+    @Says("in which the differences of SLOTS, without sign, are least together")
+    static void p27TheNearerHang() {
+        LacePins x = turns(12, empty(3, 9), 8, 5, 3, 10, 9, 11);
+        joined(x, 11, 1, 1);
+        due("the first HANG is farther", x.hang(0, 1), NOT_ANY);
+        due("the second has the OUT", x.hang(1, 1), 805);
+        LacePins y = turns(12, empty(1, 3, 9), 8, 5, 1, 10, 3, 11, 9, 12);
+        joined(y, 11, 1, 1);
+        due("the third has the OUT", y.hang(2, 1), 805);
+    }
+
+    @Says("(each to one at most)")
+    static void p27NoOutTwice() {
+        LacePins x = turns(12, empty(5, 4), 0, 1, 6, 2, 5, 9, 4, 10);
+        joined(x, 10, 2, 5);
+        due("the first HANG has the second OUT", x.hang(0, 1), 602);
+        due("it would be nearer to the second HANG, too", x.hang(1, 1), 1);
+    }
+
+    @Says("PAIRS: SLOTS FILLED at first, and HANGS that none is JOINED to")
+    static void p27AsTheTurnsAreNow() {
+        LacePins x = turns(12, empty(11, 10, 9), 0, 1, 1, 2, 2, 3, 11, 9, 10, 9, 9, 9);
+        joined(x, 9, 3, 27);
+        x.turn(9, 9);
+        joined(x, 9, 2, 18);
+        x.turn(0, 1);
+        x.turn(1, 2);
+        joined(x, 10, 1, 8);
+        due("the first HANG has it", x.hang(0, 1), 203);
+        x.turn(2, 3);
+        joined(x, 11, 0, 0);
+        x.turn(5, 8);
+        x.turn(8, 8);
+        joined(x, 9, 2, 8);
+        due("8 either way: the first HANG has the first", x.hang(0, 1), 508);
+        due("the second the other", x.hang(1, 1), 808);
+        LacePins y = turns(12, empty(5, 6, 7), 0, 1, 5, 9, 6, 9, 7, 9);
+        joined(y, 11, 1, 5);
+        y.turn(5, 9);
+        y.turn(6, 9);
+        joined(y, 9, 1, 7);
+        LacePins z = turns(12, empty(0, 3, 9), 8, 5, 4, 6, 0, 10, 3, 11, 9, 12);
+        joined(z, 10, 2, 2);
+        due("the second HANG has the OUT that is near", z.hang(1, 1), 406);
+        z.turn(4, 6);
+        joined(z, 11, 1, 1);
+        due("that OUT went", z.hang(1, 1), NOT_ANY);
+        due("the third HANG has the other", z.hang(2, 1), 805);
+    }
+
     @Says("10 at most in all")
     static void p27TenTurns() {
         LacePins x = made(loom(12));
@@ -406,6 +462,18 @@ public final class ThoughtBoundariesTest extends Boundaries {
         int[] want = {306, 7, 507, 1107};
         for (int i = 0; i < 4; i++) due("hang " + i, x.hang(i, 0), want[i]);
         due("none behind", x.hang(4, 0), NONE);
+    }
+
+    @Says("each in order by ROW, then by SLOT")
+    static void p28InOrderBehindMirror() {
+        LacePins x = turns(6, empty(0, 1, 4), 1, 7, 0, 7, 4, 6);
+        x.mirror();
+        int[] want = {106, 407, 507};
+        for (int i = 0; i < 3; i++) due("hang " + i, x.hang(i, 0), want[i]);
+        LacePins y = turns(6, empty(3), 1, 5, 5, 5, 3, 9);
+        due("ahead of it", y.hang(0, 1), 105);
+        y.mirror();
+        due("behind it: that of SLOT 0", y.hang(0, 1), 5);
     }
 
     @Says("100 times the SLOT, and the ROW (what 0); of the OUT that is JOINED to it likewise (1)")

@@ -67,6 +67,28 @@ public final class WorkBoundariesTest extends Boundaries {
         due("the first", x.needs(0, 2), THIRTY - 1);
         due("the last", x.needs(29, 2), 0);
         due("the last but one", x.needs(28, 2), 1L << 29);
+        LacePins y = pins(9, 2, 8, 2, 7, 2);
+        due("the first by number NEEDS it, too", y.needs(2, 2), 0b011);
+        due("it alone", y.needs(1, 2), 0b001);
+    }
+
+    @Says("A PIN NEEDS directly")
+    static void p12AsItIsNow() {
+        LacePins x = pins(9, 2, 8, 2, 7, 2);
+        due("ahead of drop", x.needs(0, 1), 0b110);
+        due("DEPTH", x.of(0, 4), 2);
+        x.drop();
+        due("one went", x.needs(0, 1), 0b010);
+        due("DEPTH", x.of(0, 4), 1);
+        x.drop();
+        due("both went", x.needs(0, 1), 0);
+        due("both went, directly", x.needs(0, 0), 0);
+        due("DEPTH", x.of(0, 4), 0);
+        due("deepest", x.deepest(), 0);
+        x.pin(8, 3, 0);
+        due("another came", x.needs(0, 0), 0b010);
+        x.mirror();
+        due("MIRRORED", x.needs(0, 0), 0b010);
     }
 
     @Says("NO: pin, what")
@@ -276,6 +298,13 @@ public final class WorkBoundariesTest extends Boundaries {
         for (int i = 0; i < 4; i++) {
             due("the HAND", x.count(6), last[i]);
             x.undo();
+        }
+        LacePins z = pins(5, 0, 5, 4, 5, 2);
+        due("all of one ROW", z.workAll(), 3);
+        int[] slots = {4, 2, 0};
+        for (int i = 0; i < 3; i++) {
+            due("the HAND", z.count(6), slots[i]);
+            z.undo();
         }
         LacePins y = pins(7, 0, 3, 4, 9, 2);
         y.fill(4, false);
