@@ -812,19 +812,23 @@ public final class LacePins {
         }
     }
 
-    /** LAWFUL ORDERS of the PINS that are left, over sets of them that are worked in thought. */
+    /** LAWFUL ORDERS of the PINS that are left, over the sets of them that can be ahead of the others. */
     private static final class Thought {
-        private static final int SETS = 1 << MOST_IN_THOUGHT;
+        // PINS of which none NEEDS another share no SLOT, so they are six at most, and six chains hold all
+        // twelve; a set has the first ones of each chain: there are 3 * 3 * 3 * 3 * 3 * 3 sets at most
+        private static final int MOST_SETS = 729;
 
         private int count = 0;
         private boolean lawful = false;
         private final int[] left = new int[MOST_IN_THOUGHT];
         private final int[] slot = new int[MOST_IN_THOUGHT];
         private final int[] before = new int[MOST_IN_THOUGHT];
-        // few sets ever come up in a LAWFUL ORDER: the others are passed over
-        private final boolean[] met = new boolean[SETS];
-        private final long[] ways = new long[SETS];
-        private final int[] least = new int[SETS * MOST_IN_THOUGHT];
+        // each set stands behind those that it holds: the empty one first, the whole one last
+        private int setCount = 0;
+        private final int[] sets = new int[MOST_SETS];
+        private final int[] placeOf = new int[1 << MOST_IN_THOUGHT];
+        private final long[] ways = new long[MOST_SETS];
+        private final int[] least = new int[MOST_SETS * MOST_IN_THOUGHT];
 
         boolean gather(Pattern pattern, Needs needed, long done, long lacking) {
             count = 0;
@@ -838,7 +842,7 @@ public final class LacePins {
                 if (hasPin(lacking, p)) lawful = false;
             }
             for (int i = 0; i < count; i++) before[i] = amongLeft(needed.all[left[i]]);
-            markMet();
+            findSets();
             return true;
         }
 
@@ -850,39 +854,44 @@ public final class LacePins {
             return bits;
         }
 
-        private int wholeSet() {
-            return (1 << count) - 1;
-        }
-
         private boolean comesNext(int set, int i) {
             return (set >> i & 1) == 0 && (before[i] & ~set) == 0;
         }
 
-        private void markMet() {
-            int whole = wholeSet();
-            for (int set = 1; set <= whole; set++) met[set] = false;
-            met[0] = true;
-            for (int set = 0; set <= whole; set++) {
-                if (!met[set]) continue;
+        private void findSets() {
+            setCount = 0;
+            addSet(0);
+            for (int place = 0; place < setCount && place < MOST_SETS; place++) {
                 for (int i = 0; i < count; i++) {
-                    if (comesNext(set, i)) met[set | 1 << i] = true;
+                    if (comesNext(sets[place], i)) addSet(sets[place] | 1 << i);
                 }
             }
         }
 
+        private void addSet(int set) {
+            // a place that an earlier call left there holds another set now, or none
+            if (placeOf[set] < setCount && sets[placeOf[set]] == set) return;
+            if (setCount >= MOST_SETS) return;
+            placeOf[set] = setCount;
+            sets[setCount] = set;
+            setCount++;
+        }
+
         long lawfulOrders() {
             if (!lawful) return 0;
-            int whole = wholeSet();
-            ways[whole] = 1;
-            for (int set = whole - 1; set >= 0; set--) {
-                if (!met[set]) continue;
+            ways[setCount - 1] = 1;
+            for (int place = setCount - 2; place >= 0; place--) {
                 long sum = 0;
                 for (int i = 0; i < count; i++) {
-                    if (comesNext(set, i)) sum += ways[set | 1 << i];
+                    if (comesNext(sets[place], i)) sum += waysBy(sets[place], i);
                 }
-                ways[set] = sum;
+                ways[place] = sum;
             }
             return ways[0];
+        }
+
+        private long waysBy(int set, int i) {
+            return ways[placeOf[set | 1 << i]];
         }
 
         /** Behind lawfulOrders(), for it goes by the ways that are counted there. */
@@ -893,7 +902,7 @@ public final class LacePins {
                 for (int i = 0; i < count; i++) {
                     if (!comesNext(set, i)) continue;
                     last = i;
-                    long through = ways[set | 1 << i];
+                    long through = waysBy(set, i);
                     if (k < through) break;
                     k -= through;
                 }
@@ -903,22 +912,18 @@ public final class LacePins {
         }
 
         int leastTravel(int hand) {
-            int whole = wholeSet();
-            for (int set = whole; set > 0; set--) {
-                if (!met[set]) continue;
+            for (int place = setCount - 1; place > 0; place--) {
                 for (int i = 0; i < count; i++) {
-                    if ((set >> i & 1) == 1) least[placeOf(set, i)] = leastFrom(set, slot[i]);
+                    if ((sets[place] >> i & 1) == 0) continue;
+                    least[place * MOST_IN_THOUGHT + i] = leastFrom(sets[place], slot[i]);
                 }
             }
             return leastFrom(0, hand);
         }
 
-        private static int placeOf(int set, int last) {
-            return set * MOST_IN_THOUGHT + last;
-        }
-
         private int travelBy(int set, int from, int i) {
-            return Math.abs(from - slot[i]) + least[placeOf(set | 1 << i, i)];
+            int then = placeOf[set | 1 << i];
+            return Math.abs(from - slot[i]) + least[then * MOST_IN_THOUGHT + i];
         }
 
         private int leastFrom(int set, int from) {

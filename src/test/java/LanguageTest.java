@@ -136,7 +136,7 @@ public final class LanguageTest {
         long before = bean.getThreadAllocatedBytes(Thread.currentThread().getId());
         new LacePins();
         long made = bean.getThreadAllocatedBytes(Thread.currentThread().getId()) - before;
-        check.holds("a new object takes " + made + " bytes", made < 400_000);
+        check.holds("a new object takes " + made + " bytes", made < 100_000);
         LacePins x = new LacePins();
         before = bean.getThreadAllocatedBytes(Thread.currentThread().getId());
         for (int i = 0; i < 10; i++) callAll(x);

@@ -20,6 +20,18 @@ public final class ThoughtBoundariesTest extends Boundaries {
         };
     }
 
+    /** LAWFUL ORDERS, the first and the last, LEAST TRAVEL and the order of it, as they are told now. */
+    private static String thoughtOf(LacePins x) {
+        int left = x.count(1) - x.count(3);
+        long orders = x.orders();
+        StringBuilder text = new StringBuilder(orders + " orders\ntravel " + x.travel());
+        for (int i = 0; i < left; i++) {
+            text.append('\n').append(x.order(0, i)).append(' ').append(x.order(orders - 1, i));
+            text.append(' ').append(x.along(i));
+        }
+        return text.toString();
+    }
+
     /** TURNS by SLOT and ROW. */
     private static LacePins turns(int w, int[] emptyAtFirst, int... slotRow) {
         LacePins x = made(loom(w));
@@ -90,6 +102,40 @@ public final class ThoughtBoundariesTest extends Boundaries {
         due("one PIN", made(chain(1)).orders(), 1);
         due("six that NEED none", made(side(0, 2, 4, 6, 8, 10)).orders(), 720);
         due("12! / 2^6", made(ThoughtBoundariesTest::twelve).orders(), 7484400);
+    }
+
+    @Says("LAWFUL ORDERS of all PINS that aren't DONE")
+    static void p23AsThePinsAreNow() {
+        Setup[] prickings = {
+            ThoughtBoundariesTest::twelve, side(0, 5, 10), chain(12), side(0, 2, 4, 6, 8, 10), chain(2),
+            ThoughtBoundariesTest::twelve, side(10, 0), then(side(0, 2), x -> x.pin(1, 1, CROSS)), side(3)};
+        LacePins x = new LacePins();
+        for (Setup pricking : prickings) {
+            pricking.on(x);
+            same("what was asked of other PINS is forgotten", thoughtOf(x), thoughtOf(made(pricking)));
+        }
+    }
+
+    @Says("LAWFUL ORDERS of all PINS that aren't DONE")
+    static void p23AsTheWorkIsNow() {
+        Setup six = then(side(0, 2, 5, 9), x -> {
+            x.pin(1, 1, CROSS);
+            x.pin(1, 9, CROSS);
+        });
+        int[] work = {3, 0, 5, 2, 1, 4};
+        long[] orders = {120, 40, 12, 3, 1, 1, 1};
+        LacePins x = made(six), y = made(six);
+        for (int n = 0; n < 6; n++) {
+            due("orders of " + (6 - n), x.orders(), orders[n]);
+            thoughtOf(x);
+            x.work(work[n]);
+        }
+        for (int n = 6; n > 0; n--) {
+            due("orders of " + (6 - n), x.orders(), orders[n]);
+            thoughtOf(x);
+            x.undo();
+        }
+        same("all is as at first", thoughtOf(x), thoughtOf(y));
     }
 
     @Says("what is asked changes nothing")
@@ -221,6 +267,23 @@ public final class ThoughtBoundariesTest extends Boundaries {
         LacePins y = made(loom(3));
         for (int p = 0; p < 12; p++) y.pin(p, p % 2, 0);
         due("to and fro", y.travel(), 11);
+    }
+
+    @Says("LEAST TRAVEL")
+    static void p25AsThePinsAreNow() {
+        LacePins x = made(side(0, 2));
+        x.pin(1, 1, CROSS);
+        due("there, and back", x.travel(), 3);
+        x.drop();
+        due("no more back", x.travel(), 2);
+        x.pin(1, 0, CROSS);
+        due("the other one of SLOT 0 on the way", x.travel(), 2);
+        x.work(0);
+        due("the same, from SLOT 0", x.travel(), 2);
+        x.work(1);
+        due("back to SLOT 0", x.travel(), 2);
+        x.work(2);
+        due("none is left", x.travel(), 0);
     }
 
     @Says("what is asked changes nothing")
