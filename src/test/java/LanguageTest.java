@@ -1,4 +1,5 @@
 import java.lang.management.ManagementFactory;
+import java.lang.reflect.Array;
 import java.lang.reflect.Constructor;
 import java.lang.reflect.Field;
 import java.lang.reflect.Method;
@@ -127,7 +128,7 @@ public final class LanguageTest {
     }
 
     /** Behind the constructor no call makes anything, so that 512 of them keep within the room. */
-    private static void room() {
+    private static void room() throws IllegalAccessException {
         check.topic("rule 12");
         com.sun.management.ThreadMXBean bean =
             (com.sun.management.ThreadMXBean) ManagementFactory.getThreadMXBean();
@@ -142,6 +143,21 @@ public final class LanguageTest {
         for (int i = 0; i < 10; i++) callAll(x);
         long then = bean.getThreadAllocatedBytes(Thread.currentThread().getId()) - before;
         check.holds("calls take " + then + " bytes", then < 4096);
+        int elements = elementsOf(x);
+        check.holds("an object has " + elements + " fields and elements", elements < 20_000);
+    }
+
+    /** Fields of an object and of those inside it, elements of their rows. */
+    private static int elementsOf(Object object) throws IllegalAccessException {
+        if (object.getClass().isArray()) return Array.getLength(object);
+        int sum = 0;
+        for (Field f : object.getClass().getDeclaredFields()) {
+            if (Modifier.isStatic(f.getModifiers())) continue;
+            sum++;
+            f.setAccessible(true);
+            if (!f.getType().isPrimitive()) sum += elementsOf(f.get(object));
+        }
+        return sum;
     }
 
     private static void callAll(LacePins x) {
